@@ -261,7 +261,15 @@ public final class SummerWall {
         if (!within(builder, 0, now.builderCount - 1) || !within(s, 0, MILLION)) {
             return BAD;
         }
-        return foretold.leastMorePace(now, builder, s);
+        // Odds never fall as pace grows, so halving finds how many of 0 .. 20 are too little.
+        int tooLittle = 0;
+        for (int step = 16; step > 0; step /= 2) {
+            int tried = tooLittle + step - 1;
+            if (tried <= MOST_MORE_PACE && foretold.oddsNow(now, builder, tried) < s) {
+                tooLittle += step;
+            }
+        }
+        return tooLittle <= MOST_MORE_PACE ? tooLittle : NONE;
     }
 
     public int plan(int s, int what) {
@@ -529,7 +537,7 @@ public final class SummerWall {
         }
 
         int hauls(int laid, int more) {
-            return super.hauls(laid, more) + horse;
+            return pace + more + horse;
         }
     }
 
@@ -576,7 +584,7 @@ public final class SummerWall {
         }
 
         int hauls(int laid, int more) {
-            return super.hauls(laid, more) + laid / 10;
+            return pace + more + laid / 10;
         }
     }
 
@@ -955,197 +963,206 @@ public final class SummerWall {
     private static final class Foretold {
         static final int ROW = MOST_STONES + 1;
 
-        /** What all lay, by weather and by what is laid ahead. */
+        /** What all lay, a row by what is laid ahead for each weather. */
         private final int[] lays = new int[WEATHERS * ROW];
+        /** What is laid behind a day, likewise: one without and one with a hindrance. */
+        private final int[] behind = new int[WEATHERS * ROW];
+        private final int[] behindHindered = new int[WEATHERS * ROW];
         /** Odds by what is laid, on the day that was reckoned last. */
         private final int[] odds = new int[ROW];
-        private final int[] hinderedOdds = new int[ROW];
+        private final int[] oddsHindered = new int[ROW];
+        /** The most that can be laid by each day, which is what fair days lay. */
         private final int[] fairPath = new int[MOST_DAYS + 1];
         private final int[] parts = new int[ROW];
         private int stones;
+        private int days;
         private int frost;
         private int thaw;
-        private int lowest;
+        private int day;
+        private int laid;
+        private int cost;
         int bestDay;
         int bestOdds;
 
         int oddsNow(Site site, int faster, int more) {
-            reckonTomorrow(site, site.day, site.laid, faster, more);
-            return oddsToday(odds, site, site.costToday());
+            look(site, site.day, site.laid, site.costToday());
+            reckonLays(site, faster, more);
+            goBackToTomorrow();
+            return oddsToday(odds, cost);
         }
 
-        int oddsFrom(Site site, int day, int laid) {
-            if (laid >= site.stones) {
-                return MILLION;
-            }
-            if (day >= site.days) {
-                return 0;
-            }
-            reckonTomorrow(site, day, laid, NOBODY, 0);
-            return mixed(odds, laid, 0);
+        int oddsFrom(Site site, int fromDay, int fromLaid) {
+            look(site, fromDay, fromLaid, 0);
+            reckonLays(site, NOBODY, 0);
+            goBackToTomorrow();
+            return oddsToday(odds, 0);
         }
 
         int firstSureDay(Site site, int s) {
-            prepare(site, site.laid, NOBODY, 0);
-            followFair(site);
+            look(site, site.day, site.laid, site.costToday());
+            reckonLays(site, NOBODY, 0);
             startAtSummer();
             int first = NONE;
-            for (int d = site.days; d > site.day; d--) {
-                if (d < site.days) {
-                    stepBack(odds, 0);
+            for (int d = days; d > day; d--) {
+                if (d < days) {
+                    stepBack(odds, behind, d);
                 }
                 if (odds[fairPath[d]] >= s) {
                     first = d;
                 }
             }
-            return oddsToday(odds, site, site.costToday()) >= s ? site.day : first;
-        }
-
-        private void followFair(Site site) {
-            int laid = site.laid;
-            for (int d = site.day; d < site.days; d++) {
-                fairPath[d] = laid;
-                laid = laidBehind(FAIR, laid, d == site.day ? site.costToday() : 0);
-            }
-            fairPath[site.days] = laid;
-        }
-
-        /** Odds never fall as pace grows, so halving finds how many of 0 .. 20 are too little. */
-        int leastMorePace(Site site, int builder, int s) {
-            int tooLittle = 0;
-            for (int step = 16; step > 0; step /= 2) {
-                int tried = tooLittle + step - 1;
-                if (tried <= MOST_MORE_PACE && oddsNow(site, builder, tried) < s) {
-                    tooLittle += step;
-                }
-            }
-            return tooLittle <= MOST_MORE_PACE ? tooLittle : NONE;
+            return oddsToday(odds, cost) >= s ? day : first;
         }
 
         /** The least set of the fewest hindrances; -1: none. */
         int fewestHindrances(Site site, int s) {
-            reckonTomorrow(site, site.day, site.laid, NOBODY, 0);
+            look(site, site.day, site.laid, site.costToday());
+            reckonLays(site, NOBODY, 0);
+            // The row of tomorrow is the same whatever is used today.
+            goBackToTomorrow();
             int shut = site.used | site.forbidden();
             int fewest = -1;
             for (int set = 0; set < 1 << site.hindranceCount; set++) {
                 boolean fewer = fewest < 0 || Integer.bitCount(set) < Integer.bitCount(fewest);
-                if (fewer && (set & shut) == 0 && oddsToday(odds, site, site.costOf(site.usedToday | set)) <= s) {
+                if (fewer && (set & shut) == 0 && oddsToday(odds, cost + site.costOf(set)) <= s) {
                     fewest = set;
                 }
             }
             return fewest;
         }
 
-        void findBestDay(Site site, int cost) {
-            prepare(site, site.laid, NOBODY, 0);
+        void findBestDay(Site site, int more) {
+            look(site, site.day, site.laid, site.costToday());
+            reckonLays(site, NOBODY, 0);
+            fillBehind(behindHindered, more);
             startAtSummer();
-            bestDay = site.day;
+            bestDay = day;
             bestOdds = MILLION;
-            for (int d = site.days - 1; d >= site.day; d--) {
-                int then = oddsIfHindered(site, d, cost);
+            for (int d = days - 1; d >= day; d--) {
+                int then = d == day ? oddsToday(odds, cost + more) : oddsIfHindered(d);
+                // From the last day on, so that of like ones the first stays.
                 if (then <= bestOdds) {
                     bestOdds = then;
                     bestDay = d;
                 }
-                stepBack(odds, 0);
+                stepBack(odds, behind, d);
             }
         }
 
-        /** Odds now if so much were lost on day d, the row of odds being that of the day behind it. */
-        private int oddsIfHindered(Site site, int d, int cost) {
-            if (d <= site.day) {
-                return oddsToday(odds, site, site.costToday() + cost);
+        /** Odds now if day d, which is not today, were hindered; the row of odds is that of the day behind it. */
+        private int oddsIfHindered(int d) {
+            System.arraycopy(odds, 0, oddsHindered, 0, ROW);
+            stepBack(oddsHindered, behindHindered, d);
+            for (int k = d - 1; k > day; k--) {
+                stepBack(oddsHindered, behind, k);
             }
-            System.arraycopy(odds, 0, hinderedOdds, 0, ROW);
-            stepBack(hinderedOdds, cost);
-            for (int k = d - 1; k > site.day; k--) {
-                stepBack(hinderedOdds, 0);
-            }
-            return oddsToday(hinderedOdds, site, site.costToday());
+            return oddsToday(oddsHindered, cost);
         }
 
         /** What is laid behind n days, added over all weathers by their parts of ten. */
         int sumOfLaid(Site site, int n) {
-            prepare(site, site.laid, NOBODY, 0);
+            look(site, site.day, site.laid, site.costToday());
+            reckonLays(site, NOBODY, 0);
             for (int l = 0; l < ROW; l++) {
                 parts[l] = 0;
             }
-            parts[site.laid] = 1;
+            parts[laid] = 1;
             for (int k = 0; k < n; k++) {
-                spread(k == 0 ? site.costToday() : 0);
+                spread(k == 0 ? cost : 0);
             }
             int sum = 0;
-            for (int l = lowest; l <= stones; l++) {
+            for (int l = laid; l <= stones; l++) {
                 sum += l * parts[l];
             }
             return sum;
         }
 
         /** From above down: a day only adds to what is laid, so what it adds to has been moved already. */
-        private void spread(int cost) {
-            for (int l = stones; l >= lowest; l--) {
+        private void spread(int costThen) {
+            for (int l = stones; l >= laid; l--) {
                 int part = parts[l];
                 if (part != 0) {
                     parts[l] = 0;
-                    parts[laidBehind(FAIR, l, cost)] += part * (IN_TEN - frost - thaw);
-                    parts[laidBehind(FROST, l, cost)] += part * frost;
-                    parts[laidBehind(THAW, l, cost)] += part * thaw;
+                    parts[laidBehind(FAIR, l, costThen)] += part * (IN_TEN - frost - thaw);
+                    parts[laidBehind(FROST, l, costThen)] += part * frost;
+                    parts[laidBehind(THAW, l, costThen)] += part * thaw;
                 }
             }
         }
 
-        /** Takes the site's numbers; nothing below the lowest is asked for behind this. */
-        private void prepare(Site site, int from, int faster, int more) {
+        private void look(Site site, int fromDay, int fromLaid, int costThen) {
             stones = site.stones;
+            days = site.days;
             frost = site.frost;
             thaw = site.thaw;
-            lowest = from;
+            day = fromDay;
+            laid = fromLaid;
+            cost = costThen;
+        }
+
+        private void reckonLays(Site site, int faster, int more) {
             for (int w = 0; w < WEATHERS; w++) {
-                for (int l = from; l <= stones; l++) {
+                for (int l = laid; l <= stones; l++) {
                     lays[w * ROW + l] = site.layTogether(w, l, faster, more);
                 }
             }
+            fillBehind(behind, 0);
+            fairPath[day] = laid;
+            for (int d = day; d < days; d++) {
+                fairPath[d + 1] = laidBehind(FAIR, fairPath[d], d == day ? cost : 0);
+            }
         }
 
-        private int laidBehind(int weather, int laid, int cost) {
-            int left = lays[weather * ROW + laid] - cost;
-            return left <= 0 ? laid : Math.min(stones, laid + left);
+        private void fillBehind(int[] table, int costThen) {
+            for (int w = 0; w < WEATHERS; w++) {
+                for (int l = laid; l <= stones; l++) {
+                    table[w * ROW + l] = laidBehind(w, l, costThen);
+                }
+            }
+        }
+
+        private int laidBehind(int weather, int laidAhead, int costThen) {
+            int left = lays[weather * ROW + laidAhead] - costThen;
+            return left <= 0 ? laidAhead : Math.min(stones, laidAhead + left);
         }
 
         private void startAtSummer() {
-            for (int l = lowest; l < stones; l++) {
+            for (int l = laid; l < stones; l++) {
                 odds[l] = 0;
             }
             odds[stones] = MILLION;
         }
 
-        private void reckonTomorrow(Site site, int day, int laid, int faster, int more) {
-            prepare(site, laid, faster, more);
+        private void goBackToTomorrow() {
             startAtSummer();
-            for (int d = site.days - 1; d > day; d--) {
-                stepBack(odds, 0);
+            for (int d = days - 1; d > day; d--) {
+                stepBack(odds, behind, d);
             }
         }
 
-        /** From below up: odds of a day need only odds behind it of as much laid or more. */
-        private void stepBack(int[] row, int cost) {
-            for (int l = lowest; l < stones; l++) {
-                row[l] = mixed(row, l, cost);
+        /**
+         * From the row of the day behind d to that of d, from below up: odds need only odds behind of as much
+         * laid or more. What is above the fair path can't come to be, and is left alone.
+         */
+        private void stepBack(int[] row, int[] table, int d) {
+            int most = Math.min(fairPath[d], stones - 1);
+            int fair = IN_TEN - frost - thaw;
+            for (int l = laid; l <= most; l++) {
+                row[l] = (row[table[l]] * fair + row[table[ROW + l]] * frost + row[table[2 * ROW + l]] * thaw) / IN_TEN;
             }
         }
 
-        private int mixed(int[] row, int laid, int cost) {
-            return (row[laidBehind(FAIR, laid, cost)] * (IN_TEN - frost - thaw)
-                + row[laidBehind(FROST, laid, cost)] * frost
-                + row[laidBehind(THAW, laid, cost)] * thaw) / IN_TEN;
-        }
-
-        /** Odds now, the row being that of tomorrow. */
-        private int oddsToday(int[] row, Site site, int cost) {
-            if (site.laid >= site.stones) {
+        /** Odds of the day that is looked from, the row being that of the day behind it. */
+        private int oddsToday(int[] row, int costThen) {
+            if (laid >= stones) {
                 return MILLION;
             }
-            return site.isSummer() ? 0 : mixed(row, site.laid, cost);
+            if (day >= days) {
+                return 0;
+            }
+            return (row[laidBehind(FAIR, laid, costThen)] * (IN_TEN - frost - thaw)
+                + row[laidBehind(FROST, laid, costThen)] * frost
+                + row[laidBehind(THAW, laid, costThen)] * thaw) / IN_TEN;
         }
     }
 

@@ -819,9 +819,11 @@ public final class PromiseTest {
         due.is("no item", x.item(0, 0, 0, 1), INDEX);
         due.is("twenty-four", x.sheet(0, 3, 24), 24);
         due.is("the last item", x.item(0, 3, 23, 9), 1);
+        due.is("the first item", x.item(0, 3, 0, 9), 1);
         due.is("it is 9", x.weather(0, 3, 23, 1, -1), 0);
         due.is("a new row", x.sheet(0, 3, 24), 24);
         due.is("all are 0", x.weather(0, 3, 23, 1, -1), 3);
+        due.is("all are 0", x.weather(0, 3, 0, 1, -1), 3);
         x.sheet(0, 3, 5);
         x.sheet(0, 3, -1);
         x.sheet(0, 3, 25);
