@@ -784,6 +784,7 @@ public final class SummerWall {
     /** The tape, and what a bargain on it says. */
     private static final class Tape {
         static final char END = 0;
+        static final int MOST_DIGITS = 3;
 
         final char[] letters = new char[MOST_LETTERS];
         final int[] kinds = new int[MOST_BUILDERS];
@@ -892,19 +893,19 @@ public final class SummerWall {
             return true;
         }
 
-        /** A number of 1 to 3 digits, 1 at least; -1 with the fault at its first digit. */
+        /**
+         * A number of 1 to 3 digits, 1 at least; -1 with the fault at its first digit. A fourth digit is no more
+         * of it, and is left to whatever is read next, which can't stand it.
+         */
         private int readNumber(int most) {
             next();
             int start = at;
             int value = 0;
-            while (at < length && isDigit(letters[at])) {
-                // Beyond three digits it is at fault anyway; its value is held low.
-                if (at - start < 3) {
-                    value = value * 10 + (letters[at] - '0');
-                }
+            while (at < length && at - start < MOST_DIGITS && isDigit(letters[at])) {
+                value = value * 10 + (letters[at] - '0');
                 at++;
             }
-            if (at - start > 3 || !within(value, 1, most)) {
+            if (!within(value, 1, most)) {
                 failAt(start);
                 return -1;
             }

@@ -57,6 +57,13 @@ public final class ModelTest {
         text((high ? 1 + r.nextInt(200) : 1 + r.nextInt(60)) + "," + (1 + r.nextInt(high ? 40 : 12)) + ";" + builders() + hindrances());
     }
 
+    /** Mostly a number as told, now and then with noughts ahead of it or digits behind it. */
+    private String number(int most) {
+        String noughts = r.nextInt(4) == 0 ? "000".substring(r.nextInt(3)) : "";
+        String more = r.nextInt(8) == 0 ? "" + r.nextInt(100) : "";
+        return noughts + (1 + r.nextInt(most)) + more;
+    }
+
     private String builders() {
         StringBuilder b = new StringBuilder();
         int n = 1 + r.nextInt(4);
@@ -110,7 +117,7 @@ public final class ModelTest {
                 same("oath(" + a + "," + b + ")", wall.oath(a, b), naive.oath(a, b)); break; }
             case 5: { int a = near(32, 126);
                 same("type(" + a + ")", wall.type(a), naive.type(a)); break; }
-            case 6: { if (r.nextInt(4) == 0) text(spoilt((1 + r.nextInt(60)) + "," + (1 + r.nextInt(15)) + ";" + builders() + hindrances())); break; }
+            case 6: { if (r.nextInt(4) == 0) text(spoilt(number(60) + "," + number(15) + ";" + builders() + hindrances())); break; }
             case 7: case 8: { int a = near(0, 12);
                 same("count(" + a + ")", wall.count(a), naive.count(a)); break; }
             case 9: case 10: { int a = near(0, 2);

@@ -123,7 +123,7 @@ final class NaiveWall {
         Word(String text, int place) { this.text = text; this.place = place; }
     }
 
-    /** Splits into single letters, but the first two numbers into runs of digits. */
+    /** Splits into single letters, but what stands ahead of the first ; into runs of three digits at most, too. */
     private static List<Word> words(String t) {
         List<Word> words = new ArrayList<>();
         int k = 0;
@@ -133,7 +133,7 @@ final class NaiveWall {
             if (c == ' ') { k++; continue; }
             if (c == ';') numbers = false;
             int e = k + 1;
-            if (numbers && Character.isDigit(c)) while (e < t.length() && Character.isDigit(t.charAt(e))) e++;
+            if (numbers && Character.isDigit(c)) while (e < t.length() && e < k + 3 && Character.isDigit(t.charAt(e))) e++;
             words.add(new Word(t.substring(k, e), k));
             k = e;
         }
