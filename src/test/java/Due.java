@@ -17,6 +17,12 @@ final class Due {
         askedHere = 0;
     }
 
+    /** From here on answers are held against no sentence. */
+    void noSentence() {
+        endSentence();
+        sentence = "";
+    }
+
     private void endSentence() {
         if (!sentence.isEmpty() && askedHere == 0) {
             wrong++;
@@ -38,7 +44,15 @@ final class Due {
     }
 
     void same(String what, String got, String want) {
-        that(what + ": " + got + ", due is " + want, got.equals(want));
+        int at = 0;
+        while (at < got.length() && at < want.length() && got.charAt(at) == want.charAt(at)) {
+            at++;
+        }
+        that(what + ": from letter " + at + " on '" + some(got, at) + "', due is '" + some(want, at) + "'", got.equals(want));
+    }
+
+    private static String some(String text, int from) {
+        return text.substring(from, Math.min(text.length(), from + 80));
     }
 
     boolean failed() {
