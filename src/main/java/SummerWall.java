@@ -23,7 +23,7 @@ public final class SummerWall {
         }
     }
 
-    // ---- builders, hindrances
+    // ---- 1 builders, hindrances
 
     public int builder(int kind, int pace, int horse) {
         if (!within(kind, 0, KINDS - 1) || !within(pace, 1, 9) || !within(horse, 0, 9)) {
@@ -237,7 +237,7 @@ public final class SummerWall {
         return was;
     }
 
-    // ---- foretold
+    // ---- 2 foretold
 
     public int odds() {
         return foretold.oddsNow(now, NOBODY, 0);
@@ -341,7 +341,7 @@ public final class SummerWall {
         return 1;
     }
 
-    // ---- sheets
+    // ---- 3 sheets
 
     public int weather(int sheet, int lane, int i, int n, int d) {
         if (!isSheet(sheet) || !isLane(lane) || !within(n, 1, MOST_ROW) || !within(d, -1, n - 1)) {

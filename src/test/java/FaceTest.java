@@ -9,6 +9,8 @@ import java.util.ArrayList;
 import java.util.Arrays;
 import java.util.List;
 import java.util.TreeSet;
+import java.util.regex.Matcher;
+import java.util.regex.Pattern;
 
 /** The class has the document's face and no more, and its text keeps to LANGUAGE.md where that can be seen. */
 public final class FaceTest {
@@ -108,6 +110,7 @@ public final class FaceTest {
         for (String s : shut) {
             due.that("nowhere: " + s, !text.contains(s));
         }
+        library(text);
         int longest = 0, start = -1;
         String[] lines = text.split("\n");
         for (int k = 0; k < lines.length; k++) {
@@ -119,5 +122,22 @@ public final class FaceTest {
             }
         }
         due.that("methods stay short: " + longest, longest <= 60 && longest > 3);
+    }
+
+    /** Of the library (rule 4) no more than these; all other names that begin like a class's are of classes inside. */
+    private static void library(String text) {
+        String code = text.replaceAll("(?s)/\\*.*?\\*/", "").replaceAll("//[^\n]*", "");
+        TreeSet<String> own = new TreeSet<>(Arrays.asList("SummerWall"));
+        for (Class<?> c : SummerWall.class.getDeclaredClasses()) {
+            own.add(c.getSimpleName());
+        }
+        Matcher name = Pattern.compile("\\b([A-Z]\\w*[a-z]\\w*)(\\.\\w+)?").matcher(code);
+        List<String> may = Arrays.asList("Math.min", "Integer.bitCount", "System.arraycopy");
+        int found = 0;
+        while (name.find()) {
+            due.that("of the library: " + name.group(), own.contains(name.group(1)) || may.contains(name.group()));
+            found++;
+        }
+        due.that("names were found", found > 20);
     }
 }

@@ -1,3 +1,7 @@
+import java.io.IOException;
+import java.nio.file.Files;
+import java.nio.file.Path;
+
 /** The document's Terms, read by DocumentTest. */
 final class TermsRead extends Edges {
     private final Reading doc;
@@ -8,7 +12,7 @@ final class TermsRead extends Edges {
         this.due = due;
     }
 
-    void read() {
+    void read() throws IOException {
         doc.passes("## Terms");
         answersBelowNought();
         whatTheMachineFinds();
@@ -746,11 +750,15 @@ final class TermsRead extends Edges {
         text("7,1 5;p10", -24);
     }
 
-    private void groups() {
-        doc.passes("Ahead of the calls `builder`, `of`, `wall`, `hindrance`, `oath`, `type`, `bargain`, `count` the interface says: ---- 1 builders, hindrances.");
-        doc.passes("Ahead of the calls `day`, `use`, `drift`, `undo`, `seed` the interface says: ---- what is done.");
-        doc.passes("Ahead of the calls `odds`, `oddsAt`, `sure`, `pace`, `plan`, `best`, `soonest`, `mean`, `image`, `restore` the interface says: ---- 2 foretold.");
+    private void groups() throws IOException {
+        doc.asks("Ahead of the calls `builder`, `of`, `wall`, `hindrance`, `oath`, `type`, `bargain`, `count` the interface says: ---- 1 builders, hindrances.");
+        group("---- 1 builders, hindrances", "builder", "of", "wall", "hindrance", "oath", "type", "bargain", "count");
+        doc.asks("Ahead of the calls `day`, `use`, `drift`, `undo`, `seed` the interface says: ---- what is done.");
+        group("---- what is done", "day", "use", "drift", "undo", "seed");
+        doc.asks("Ahead of the calls `odds`, `oddsAt`, `sure`, `pace`, `plan`, `best`, `soonest`, `mean`, `image`, `restore` the interface says: ---- 2 foretold.");
+        group("---- 2 foretold", "odds", "oddsAt", "sure", "pace", "plan", "best", "soonest", "mean", "image", "restore");
         doc.asks("Ahead of the calls `weather`, `film`, `sheet`, `drop`, `item`, `copy` the interface says: ---- 3 sheets 0 .. 3: nothing (at first),");
+        group("---- 3 sheets", "weather", "film", "sheet", "drop", "item", "copy");
         SummerWall x = new SummerWall();
         for (int s = 0; s < 4; s++) {
             due.is("nothing", x.drop(s), NULL);
@@ -767,6 +775,18 @@ final class TermsRead extends Edges {
         }
         due.is("25", x.sheet(0, 0, 25), BAD);
         due.is("no such lane", x.sheet(0, 4, 1), BAD);
+    }
+
+    /** That the class has these calls in this order behind what stands ahead of them. */
+    private void group(String ahead, String... calls) throws IOException {
+        String text = Files.readString(Path.of("src/main/java/SummerWall.java"));
+        int at = text.indexOf("    // " + ahead + "\n");
+        due.that(ahead, at >= 0);
+        for (String call : calls) {
+            int next = text.indexOf("    public ", at + 1);
+            due.that(call + " is next", next > at && text.startsWith("    public int " + call + "(", next));
+            at = next;
+        }
     }
 
     private static SummerWall behindSheet(int lane, long v) {
