@@ -61,6 +61,7 @@ final class PromisesRead extends Edges {
         due.is("the third", x.builder(4, 1, 0), 2);
         due.is("the fourth", x.builder(2, 1, 0), 3);
         due.is("the fifth", x.builder(1, 1, 0), FULL);
+        due.is("BAD is named first", x.builder(5, 1, 0), BAD);
         due.is("builders", x.count(0), 4);
 
         promise(3, "of", "int of(int builder, int what)");
@@ -126,6 +127,7 @@ final class PromisesRead extends Edges {
             due.is("one more", x.hindrance(1, 0), k);
         }
         due.is("the seventh", x.hindrance(1, 0), FULL);
+        due.is("BAD is named first", x.hindrance(0, 0), BAD);
 
         promise(6, "oath", "int oath(int k, int is)");
         doc.asks("An OATH is SWORN (1), or not (0): how it was.");
@@ -149,6 +151,8 @@ final class PromisesRead extends Edges {
             due.is("letters", x.type(text.charAt(k)), k + 1);
         }
         doc.asks("BAD: not 32 .. 126;");
+        due.is("32", new SummerWall().type(32), 1);
+        due.is("126", new SummerWall().type(126), 1);
         due.is("31", x.type(31), BAD);
         due.is("127", x.type(127), BAD);
         due.is("no letter", x.type(HIGH), BAD);
@@ -157,6 +161,7 @@ final class PromisesRead extends Edges {
             due.is("blanks", x.type(' '), k + 1);
         }
         due.is("the 61st", x.type(' '), FULL);
+        due.is("BAD is named first", x.type(127), BAD);
 
         promise(8, "bargain", "int bargain()");
         doc.asks("THE TAPE, which is empty then, is a BARGAIN: how many BUILDERS.");
@@ -223,6 +228,7 @@ final class PromisesRead extends Edges {
         doc.asks("NOT: it was;");
         due.is("today", x.use(2), NOT);
         due.is("yesterday", x.use(0), NOT);
+        due.is("BAD is named first: number 32, whose bit would be that of number 0", x.use(32), BAD);
         doc.asks("FULL: it is SUMMER.");
         x.undo();
         x.day(FAIR);
@@ -324,10 +330,13 @@ final class PromisesRead extends Edges {
         promise(18, "pace", "int pace(int builder, int s)");
         doc.asks("PACE; NONE.");
         SummerWall y = of("20,1;p90,h12");
+        due.is("of 0", y.pace(0, 0), 0);
         due.is("12 on a fair day, 20 are wanted", y.pace(0, 1), 8);
         due.is("of the other", y.pace(1, 1), 8);
         due.is("in thaw, too", y.pace(0, 800000), 10);
         due.is("in frost, too: 1 of the other, 19 of his", y.pace(0, MILLION), NONE);
+        due.is("of a blind one in frost", of("11,1;b90", 10, 0).pace(0, MILLION), 2);
+        due.is("of one who is paid", fairOnly("21,2;w90").pace(0, MILLION), 1);
         doc.asks("BAD.");
         due.is("no such builder", y.pace(2, 0), BAD);
         due.is("no such builder", y.pace(-1, 0), BAD);
@@ -376,6 +385,8 @@ final class PromisesRead extends Edges {
         }
         doc.asks("NOT: it is USED.");
         due.is("used", y.best(0, 0), NOT);
+        due.is("BAD is named first", y.best(0, 2), BAD);
+        due.is("BAD is named first", y.best(32, 0), BAD);
         y.undo();
         due.is("used", y.best(0, 1), NOT);
     }
@@ -388,6 +399,9 @@ final class PromisesRead extends Edges {
         due.is("frost", x.soonest(FROST), NONE);
         x.use(0);
         due.is("fair, nothing today", x.soonest(FAIR), 12);
+        SummerWall today = of("9,2;p90;1");
+        today.use(0);
+        due.is("what is used costs today", today.soonest(FAIR), 2);
         doc.asks("BAD.");
         due.is("3", x.soonest(3), BAD);
         due.is("-1", x.soonest(-1), BAD);
@@ -442,11 +456,12 @@ final class PromisesRead extends Edges {
             y.day(FAIR);
             y.undo();
             y.undo();
-            tell(y, "1,1;p10");
+            tell(y, "1,1;p10;1d,1d,1d");
+            y.day(FAIR);
             y.wall(2, 0);
+            y.wall(3, 7);
             y.oath(1, 0);
             y.seed(5);
-            y.hindrance(1, 1);
             more.on(y);
             y.restore();
         }), then);
@@ -482,6 +497,7 @@ final class PromisesRead extends Edges {
         due.is("shorts as ints", x.weather(2, 2, 1, 4, 0), CAST);
         doc.asks("INDEX;");
         due.is("3 and 4", x.weather(2, 1, 3, 4, 0), INDEX);
+        due.is("INDEX is named ahead of NOT", x.weather(2, 1, 0, 8, 0), INDEX);
         due.is("from -1", x.weather(2, 1, -1, 4, 0), INDEX);
         doc.asks("NOT: there are not so many DAYS till SUMMER.");
         due.is("6 of 5", x.weather(2, 1, 0, 6, 0), NOT);
@@ -542,6 +558,7 @@ final class PromisesRead extends Edges {
         doc.asks("SIZE: n below 0.");
         due.is("-1", x.sheet(0, 0, -1), SIZE);
         due.is("the lowest", x.sheet(0, 0, LOW), SIZE);
+        due.is("BAD is named first", x.sheet(4, 0, -1), BAD);
 
         promise(28, "drop", "int drop(int sheet)");
         doc.asks("A SHEET holds nothing: how many items it had.");

@@ -582,12 +582,15 @@ final class TermsRead extends Edges {
         due.is("eight", x.count(12), 8);
         for (int k = 7; k >= 0; k--) {
             due.is("undone", x.undo(), k);
+            due.is("day", x.count(6), k + 1);
+            due.is("laid", x.count(7), 5 * (k + 1));
         }
         due.is("the first of nine is lost", x.undo(), NONE);
-        due.is("the first of nine", x.count(6), 1);
         doc.asks("DAY, LAID, what is USED, was USED today, BROKEN, THE DRAW are as ahead of it, whatever was told since;");
-        SummerWall y = of("60,20;p50;3a,2b");
+        SummerWall y = of("60,20;p50;3a,2b,4");
+        y.oath(1, 0);
         y.seed(5);
+        y.use(2);
         y.drift(1);
         int laid = y.count(7), draw = y.seed(6);
         y.seed(draw);
@@ -598,14 +601,16 @@ final class TermsRead extends Edges {
         y.oath(0, 0);
         y.wall(0, 50);
         y.undo();
-        counts(due, "the day", y, 1, 2, 50, 20, 2, 1, 1, laid, 3, 5, 3, 14, 3);
+        counts(due, "the day", y, 1, 3, 50, 20, 2, 1, 1, laid, 7, 5, 1, 12, 4);
         due.is("the draw", y.seed(8), draw);
         y.undo();
-        counts(due, "the use", y, 1, 2, 50, 20, 2, 1, 1, laid, 1, 3, 1, 14, 2);
+        counts(due, "the use", y, 1, 3, 50, 20, 2, 1, 1, laid, 5, 3, 1, 12, 3);
         due.is("the draw", y.seed(8), draw);
         y.undo();
         y.undo();
-        counts(due, "all", y, 1, 2, 50, 20, 2, 1, 0, 0, 0, 0, 0, 14, 0);
+        counts(due, "the first day", y, 1, 3, 50, 20, 2, 1, 0, 0, 4, 4, 0, 12, 1);
+        y.undo();
+        counts(due, "all", y, 1, 3, 50, 20, 2, 1, 0, 0, 0, 0, 0, 12, 0);
         due.is("the draw", y.seed(8), 5);
         doc.asks("a BARGAIN, a new BUILDER, HINDRANCE leave nothing to be UNDONE.");
         Asking[] calls = {z -> tell(z, "7,5;p10"), z -> z.builder(0, 1, 0), z -> z.hindrance(1, NONE)};
@@ -649,6 +654,14 @@ final class TermsRead extends Edges {
             for (int lot : lots) {
                 due.is("lot " + lot + " by thaw " + thaw, y.drift(1), lot < 3 ? 4 : lot < 3 + thaw ? 8 : 9);
             }
+        }
+        // One plain, one blind, both of pace 2: 4 are laid on a fair day, 3 in frost, 2 in thaw.
+        SummerWall z = of("200,40;p20,b20", 4, 3);
+        long draw = 1;
+        for (int k = 0; k < 40; k++) {
+            draw = (draw * 1103515245L + 12345L) % (1L << 31);
+            long lot = draw / 65536 % 10;
+            due.is("day " + k + ", lot " + lot, z.drift(1), lot < 4 ? 3 : lot < 7 ? 2 : 4);
         }
     }
 
@@ -712,12 +725,12 @@ final class TermsRead extends Edges {
         x.use(1);
         int draw = x.seed(0);
         x.seed(draw);
-        due.is("one builder", tell(x, "7,5;g11;9"), 1);
-        counts(due, "in place", x, 1, 1, 7, 5);
+        due.is("one builder", tell(x, "7,5;g11;9,8"), 1);
+        counts(due, "in place", x, 1, 2, 7, 5);
         due.is("a giant", x.of(0, 0), 3);
         due.is("nobody else", x.of(1, 0), BAD);
         doc.asks("DAY 0, nothing LAID, USED, BROKEN (FROST, THAW, what is SWORN, THE DRAW stay).");
-        counts(due, "begun anew", x, 1, 1, 7, 5, 4, 3, 0, 0, 0, 0, 0, 11, 0);
+        counts(due, "begun anew", x, 1, 2, 7, 5, 4, 3, 0, 0, 0, 0, 0, 11, 0);
         due.is("the draw", x.seed(1), draw);
         doc.asks("Numbers have 1 to 3 digits.");
         text("7,005;p10", 1);
