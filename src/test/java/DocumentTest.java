@@ -24,7 +24,10 @@ public final class DocumentTest extends Edges {
     private static void whatItIs(Reading doc) {
         doc.passes("# SummerWall ## What it is");
         doc.passes("A wall by the first of summer: a stranger will build a wall round a city in one winter, for more than it can bear, since it cannot be done;");
-        doc.upTo("An object is used");
+        doc.passes("builders of kinds by how they haul, in what weather, hindrances within oaths and beyond them, days fair, of frost, of thaw;");
+        doc.passes("day by day, by draws, undone; how likely he will, from what is laid; on which day it could first be seen, by how much pace he would;");
+        doc.passes("the fewest hindrances without a broken oath by which he will not, on which day one is best; how soon by fair days, by frost;");
+        doc.passes("what is laid in the mean; what weather there was, by what was laid; bargains as texts; images; sheets that may be missing.");
         doc.asks("An object is used for at most 512 calls after it has been made; what later calls answer is free.");
         SummerWall x = new SummerWall();
         due.is("call 1", x.builder(0, 3, 0), 0);
